@@ -1,7 +1,7 @@
 import java.util.Arrays;
 
 /**
- * One test for each sentence of the document that names a boundary case, told by the sentence's own words.
+ * At least one test for each sentence of the document that names a boundary case, named after the sentence.
  * No object here is used for more than the document's 512 calls.
  */
 public final class BoundaryTest {
@@ -776,7 +776,7 @@ public final class BoundaryTest {
         promises1To3();
         promises4To12();
         laterAnswers();
-        System.out.println(tests + " sentences, " + wrong + " answers not as due");
+        System.out.println(tests + " tests of sentences, " + wrong + " answers not as due");
         if (wrong != 0) {
             System.exit(1);
         }
